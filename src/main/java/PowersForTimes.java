@@ -573,7 +573,7 @@ public final class PowersForTimes {
         }
 
         int common(int a, int b) {
-            for (int i = 0; i <= MOST && b != 0; i++) {
+            for (int i = 0; i < 2 * MOST && b != 0; i++) {
                 int left = rest(a, b);
                 a = b;
                 b = left;
