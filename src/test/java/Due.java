@@ -2,15 +2,21 @@
 final class Due {
     private static int wrong = 0;
     private static int asked = 0;
+    private static String test = "";
 
     private Due() { }
+
+    /** What is said from now on is said of this test. */
+    static void start(String name) {
+        test = name + ": ";
+    }
 
     static void due(String call, long got, long want) {
         asked++;
         if (got != want) {
             wrong++;
             if (wrong <= 40) {
-                System.out.println(call + " answered " + got + ", due is " + want);
+                System.out.println(test + call + " answered " + got + ", due is " + want);
             }
         }
     }
@@ -20,7 +26,7 @@ final class Due {
         if (!is) {
             wrong++;
             if (wrong <= 40) {
-                System.out.println(what + " does not hold");
+                System.out.println(test + what + " does not hold");
             }
         }
     }
