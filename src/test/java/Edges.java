@@ -5,6 +5,7 @@ import java.util.ArrayList;
 import java.util.Arrays;
 import java.util.Comparator;
 import java.util.List;
+import java.util.function.Supplier;
 
 /** What the tests of single sentences share: how they are run, and what a call leaves as it was. */
 final class Edges {
@@ -15,6 +16,33 @@ final class Edges {
     static final int[][] WORLDS = {{2, 2, 2}, {2, 131, 128}, {3, 3, 3}, {3, 86, 81}, {5, 5, 5}, {5, 131, 125}};
 
     private Edges() { }
+
+    /** Objects made alike, one after the other: what an object answers after its 512th call is free, so none is asked so often. */
+    static final class Fresh {
+        private static final int MOST_ASKED = 450;
+
+        private final Supplier<PowersForTimes> maker;
+        private PowersForTimes now;
+        private int asked = MOST_ASKED;
+
+        Fresh(Supplier<PowersForTimes> maker) {
+            this.maker = maker;
+        }
+
+        static Fresh at(int q, int m) {
+            return new Fresh(() -> Edges.at(q, m));
+        }
+
+        /** For one call. */
+        PowersForTimes x() {
+            if (asked >= MOST_ASKED) {
+                now = maker.get();
+                asked = 0;
+            }
+            asked++;
+            return now;
+        }
+    }
 
     /** A call, to be made on an object in some state. */
     interface Call {

@@ -516,17 +516,15 @@ public final class ModulesEdgesTest {
     // ---- promises 20 to 22
 
     /** Maps by texts for one module: whether each is one of it and what it leads to, what its dual is. */
-    private static void maps(String name, PowersForTimes x, Naive w, int[] g, int[]... us) {
+    private static void maps(String name, Naive w, int[] g, int[]... us) {
         for (int i = 0; i < us.length; i++) {
             int[] u = Naive.trim(us[i]);
             StringBuilder text = new StringBuilder("map 0");
             for (int k = 0; k < u.length; k++) {
                 text.append("+").append(u[k]).append("*t^").append(k);
             }
-            x.back();
+            PowersForTimes x = with(w.q, w.m, g);
             due(name + "text", Edges.read(x, text + ";"), 0);
-            x.world(w.q, w.m);
-            x.module(g[0], g[1], g.length > 2 ? g[2] : 0, g.length > 3 ? g[3] : 0);
             due(name + "told", x.told(0), NONE);
             String call = name + text + " ";
             int[] v = w.lead(u, g);
@@ -547,7 +545,7 @@ public final class ModulesEdgesTest {
         each((name, x, w, g) -> {
             int last = w.n - 1;
             // figures and powers of t are maps of all; G itself; others may be or not
-            maps(name, x, w, g, new int[] {1}, new int[] {last}, new int[] {0, 1}, new int[] {0, 0, 0, 0, 0, 0, 0, 1}, new int[] {0, 0, 0, 0, 0, 0, 0, last},
+            maps(name, w, g, new int[] {1}, new int[] {last}, new int[] {0, 1}, new int[] {0, 0, 0, 0, 0, 0, 0, 1}, new int[] {0, 0, 0, 0, 0, 0, 0, last},
                 new int[] {1, 1}, new int[] {last, 1}, new int[] {1, 0, 1}, new int[] {last, 1, 1}, g, w.times(g, g), new int[] {1, 0, 0, 0, 0, 0, 0, 1},
                 w.make(g, 1), w.make(g, last), w.make(g, w.n / 2), w.make(g, 0));
         });

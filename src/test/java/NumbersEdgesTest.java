@@ -17,15 +17,15 @@ public final class NumbersEdgesTest {
     @Says(at = "Promise 3", value = "RESTS: 0 a + b, 1 a - b, 2 a b, 3 a by b.")
     static void p03Work() {
         for (int[] world : new int[][] {{2, 2}, {2, 11}, {3, 3}, {3, 10}, {3, 34}, {5, 5}, {5, 27}}) {
-            PowersForTimes x = Edges.at(world[0], world[1]);
+            Edges.Fresh fresh = Edges.Fresh.at(world[0], world[1]);
             Naive w = new Naive(world[0], world[1]);
             for (int a = 0; a < w.n; a++) {
                 for (int b = 0; b < w.n; b++) {
                     String name = world[0] + ", " + world[1] + ": " + a + " and " + b + ": ";
-                    due(name + "sum", x.work(0, a, b), w.sum(a, b));
-                    due(name + "difference", x.work(1, a, b), w.less(a, b));
-                    due(name + "product", x.work(2, a, b), w.times(a, b));
-                    due(name + "by", x.work(3, a, b), b == 0 ? NONE : w.by(a, b));
+                    due(name + "sum", fresh.x().work(0, a, b), w.sum(a, b));
+                    due(name + "difference", fresh.x().work(1, a, b), w.less(a, b));
+                    due(name + "product", fresh.x().work(2, a, b), w.times(a, b));
+                    due(name + "by", fresh.x().work(3, a, b), b == 0 ? NONE : w.by(a, b));
                 }
             }
         }
@@ -73,7 +73,7 @@ public final class NumbersEdgesTest {
     @Says(at = "Promise 4", value = "POLYNOMIALS (0 .. q^13 - 1): 0 a + b, 1 a - b, 2 a b, 3 what a leaves by b, 4 a by b (without that),")
     static void p04Poly() {
         for (int q : Edges.BASES) {
-            PowersForTimes x = Edges.at(q, q);
+            Edges.Fresh fresh = Edges.Fresh.at(q, q);
             int top = Edges.power(q, 12);
             int last = Edges.power(q, 13) - 1;
             int[] some = {0, 1, q - 1, q, q + 1, 2 * q - 1, q * q + 1, q * q * q - 1, top - 1, top, top + 1, last - 1, last, last - q, 8 * q + 3};
@@ -82,16 +82,17 @@ public final class NumbersEdgesTest {
                     String name = q + ": " + a + " and " + b + ": ";
                     int[] f = Naive.figures(a, q);
                     int[] g = Naive.figures(b, q);
-                    due(name + "sum", x.poly(0, a, b), Naive.number(Naive.plus(f, g, 1, q), q));
-                    due(name + "difference", x.poly(1, a, b), Naive.number(Naive.plus(f, g, -1, q), q));
+                    due(name + "sum", fresh.x().poly(0, a, b), Naive.number(Naive.plus(f, g, 1, q), q));
+                    due(name + "difference", fresh.x().poly(1, a, b), Naive.number(Naive.plus(f, g, -1, q), q));
                     int[] product = Naive.times(f, g, q);
-                    due(name + "product", x.poly(2, a, b), product.length > 13 ? NONE : Naive.number(product, q));
+                    due(name + "product", fresh.x().poly(2, a, b), product.length > 13 ? NONE : Naive.number(product, q));
                     if (b > 0) {
-                        due(name + "leaves", x.poly(3, a, b), Naive.number(Naive.divide(f, g, q)[1], q));
-                        due(name + "by", x.poly(4, a, b), Naive.number(Naive.divide(f, g, q)[0], q));
+                        due(name + "leaves", fresh.x().poly(3, a, b), Naive.number(Naive.divide(f, g, q)[1], q));
+                        due(name + "by", fresh.x().poly(4, a, b), Naive.number(Naive.divide(f, g, q)[0], q));
                     }
                 }
             }
+            PowersForTimes x = Edges.at(q, q);
             due("T^12 by 1", x.poly(4, top, 1), top);
             due("T^12 by T^12", x.poly(4, top, top), 1);
             due("T^12 - 1 by T^12", x.poly(4, top - 1, top), 0);
@@ -118,10 +119,11 @@ public final class NumbersEdgesTest {
             due("T^12 and T + 1", x.poly(5, Edges.power(q, 12), q + 1), 1);
             int[] figures = Naive.figures(last, q);
             due("the last and itself", x.poly(5, last, last), Naive.number(Naive.monic(figures, q), q));
+            Edges.Fresh fresh = Edges.Fresh.at(q, q);
             for (int a = 0; a < q * q * q; a += 1 + a % 3) {
                 for (int b = 0; b < q * q * q; b++) {
                     int want = Naive.number(Naive.common(Naive.figures(a, q), Naive.figures(b, q), q), q);
-                    due(q + ": common of " + a + " and " + b, x.poly(5, a, b), want);
+                    due(q + ": common of " + a + " and " + b, fresh.x().poly(5, a, b), want);
                 }
             }
         }
@@ -343,14 +345,15 @@ public final class NumbersEdgesTest {
     @Says(at = "IV", value = "FACTORS of a POLYNOMIAL (not 0): its PRIME factors by number, each as often as it is one.")
     static void ivFactors() {
         for (int q : Edges.BASES) {
-            PowersForTimes x = Edges.at(q, q);
+            Edges.Fresh fresh = Edges.Fresh.at(q, q);
             for (int a = 1; a < 400; a++) {
                 java.util.List<Integer> want = Naive.factors(a, q);
-                due(q + ": factors of " + a, x.factors(a, -1), want.size());
+                due(q + ": factors of " + a, fresh.x().factors(a, -1), want.size());
                 for (int i = 0; i <= want.size(); i++) {
-                    due(q + ": factor " + i + " of " + a, x.factors(a, i), i < want.size() ? want.get(i) : NONE);
+                    due(q + ": factor " + i + " of " + a, fresh.x().factors(a, i), i < want.size() ? want.get(i) : NONE);
                 }
             }
+            PowersForTimes x = Edges.at(q, q);
             for (int figure = 1; figure < q; figure++) {
                 due("a figure has none", x.factors(figure, -1), 0);
                 due("T^12 and a figure", x.factors(figure * Edges.power(q, 12), -1), 12);

@@ -125,10 +125,9 @@ public final class TermsEdgesTest {
     static void termsPrimes() {
         // how many primes there are of each degree that a world can have
         int[][] primes = {{}, {}, {0, 2, 1, 2, 3, 6, 9, 18}, {0, 3, 3, 8, 18}, {}, {0, 5, 10, 40}};
-        PowersForTimes x = new PowersForTimes();
         for (int q : Edges.BASES) {
-            due("world", x.world(q, q), q);
             for (int degree = 0; degree < primes[q].length; degree++) {
+                PowersForTimes x = Edges.at(q, q);
                 int start = Edges.power(q, degree);
                 int worlds = 0;
                 int single = 0;
@@ -143,6 +142,7 @@ public final class TermsEdgesTest {
                 due(q + ": primes of degree " + degree, single, primes[q][degree]);
             }
         }
+        PowersForTimes x = new PowersForTimes();
         for (int[] no : new int[][] {{2, 0}, {2, 1}, {3, 1}, {3, 2}, {5, 1}, {5, 4}}) {
             due("of degree 0, or none: " + no[1], x.world(no[0], no[1]), -1);
         }
@@ -359,14 +359,15 @@ public final class TermsEdgesTest {
 
     @Says(at = "Terms", value = "A POLYNOMIAL a = a0 + a1 T + .. ACTS by a MODULE as the TURNED a0 + a1 G + a2 G G + .. (G the MODULE), DEGREE 24 at most")
     static void termsActs() {
-        PowersForTimes x = Edges.at(2, 7);
-        x.module(2, 1, 0, 0);
-        x.module(2, 1, 1, 0);
-        x.module(2, 1, 0, 1);
         int[][] g = {{2, 1}, {2, 1, 1}, {2, 1, 0, 1}};
+        PowersForTimes x = Edges.at(2, 7);
         Naive w = new Naive(2, 7);
         // degrees 8 to 12: by rank 3 8 is 24, by rank 2 12 is 24
         for (int a : new int[] {0, 1, 2, 5, 255, 256, 511, 512, 1024, 2048, 4095, 4096, 8191}) {
+            x = Edges.at(2, 7);
+            x.module(2, 1, 0, 0);
+            x.module(2, 1, 1, 0);
+            x.module(2, 1, 0, 1);
             for (int module = 0; module < 3; module++) {
                 int[] c = w.actsAs(g[module], a);
                 boolean is = c.length <= 25;
@@ -423,5 +424,9 @@ public final class TermsEdgesTest {
         due("an 11th", x.told(1), 0);
         due("map 10", x.of(true, 10, -1), -1);
         Edges.refused("0", -1, y -> y.map(0, 0, 0), Made.values());
+        x = Edges.at(2, 7);
+        due("text", Edges.read(x, "map 1+2*t+3*t^2+1*t^3+2*t^4+3*t^5+1*t^6+2*t^7;"), 0);
+        due("told", x.told(0), -1);
+        Edges.row(x, true, 0, 1, 2, 3, 1, 2, 3, 1, 2);
     }
 }

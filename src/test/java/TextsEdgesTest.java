@@ -315,6 +315,12 @@ public final class TextsEdgesTest {
         fault("map 1 10000;", 1, 6);
         fault("10000;", 1, 0);
         fault("map (((((((( 1 (", 1, 15);
+        fault("map (((((((( *", 1, 13);
+        fault("map (((((((( )", 1, 13);
+        fault("map (((((((( map", 1, 13);
+        fault("map ((((((((", 1, 12);
+        fault("map --------+", 1, 12);
+        fault("map (((((((( 1 10000", 1, 15);
         fault("map 1;".repeat(20) + "10000", 1, 120);
         fault("map 1;".repeat(20) + "(", 1, 120);
         fault("map 1;".repeat(20) + "$", 1, 120);
@@ -745,6 +751,10 @@ public final class TextsEdgesTest {
         due("told(0)", x.told(0), NONE);
         Edges.row(x, true, 0, 3);
         due("the next has the number", Edges.read(x, "map 2;"), 1);
+        // but for the tape and the latest fault all stays, what was undone and the image, too
+        for (Made state : Made.values()) {
+            Edges.same(state, y -> NONE, y -> Edges.read(y, "map 2;module t;map 1;map"));
+        }
     }
 
     @Says(at = "Promise 9", value = "or (the tape stays) there are 4.")
@@ -762,6 +772,28 @@ public final class TextsEdgesTest {
         due("a fifth", x.text(), NONE);
         due("the tape stays", x.count(9), 1);
         due("texts", x.count(6), 4);
+        // what stays on the tape was not read: the latest fault stays, too
+        due("no fault yet", x.fault(0), 0);
+        due("no place yet", x.fault(1), NONE);
+        PowersForTimes y = Edges.at(2, 7);
+        for (int i = 0; i < 3; i++) {
+            due("text", Edges.read(y, "map 1;"), i);
+        }
+        due("with a fault, and three texts", Edges.read(y, "map t^25;"), NONE);
+        due("the tape is empty", y.count(9), 0);
+        due("back", y.back(), 0);
+        due("texts", y.count(6), 0);
+        for (int i = 0; i < 4; i++) {
+            due("text", Edges.read(y, "map 1;"), i);
+        }
+        due("image, with four texts", y.image(), 0);
+        due("a fifth with a fault", Edges.read(y, "map t^25;"), NONE);
+        due("the tape stays", y.count(9), 9);
+        due("the fault of the fourth", y.fault(0), 0);
+        due("back", y.back(), 0);
+        due("the tape stays", y.count(9), 9);
+        due("still four", y.text(), NONE);
+        due("its place", y.fault(1), NONE);
         // with room again, what stayed is read
         Due.put(x, "map 3;");
         due("a fifth", x.text(), NONE);

@@ -9,7 +9,7 @@ public final class TextsTest {
         faults();
         places();
         told();
-        int seeds = args.length > 0 ? Integer.parseInt(args[0]) : 400;
+        int seeds = args.length > 0 ? Integer.parseInt(args[0]) : 800;
         for (int seed = 0; seed < seeds; seed++) {
             random = new Random(seed);
             randomTexts(seed);
@@ -330,7 +330,8 @@ public final class TextsTest {
         int[][] worlds = {{2, 2}, {2, 7}, {3, 10}, {5, 7}, {2, 131}, {3, 5}, {5, 31}};
         PowersForTimes x = new PowersForTimes();
         Model y = new Model();
-        for (int i = 0; i < 12; i++) {
+        // what is asked of an object stays below 512 calls: a round of them is 206 at most
+        for (int asked = 0; asked < 300;) {
             int[] w = worlds[less(worlds.length)];
             Due.due(seed + " world", x.world(w[0], w[1]), y.world(w[0], w[1]));
             String text = randomText();
@@ -343,12 +344,18 @@ public final class TextsTest {
             Due.due(name + "bytes", x.count(9), y.count(9));
             int which = less(y.count(6) + 1);
             Due.due(name + "told " + which, x.told(which), y.told(which));
-            for (int k = 0; k < 10; k++) {
+            int modules = y.count(4);
+            int maps = y.count(5);
+            Due.due(name + "modules", x.count(4), modules);
+            Due.due(name + "maps", x.count(5), maps);
+            for (int k = 0; k < modules + maps; k++) {
+                boolean map = k < maps;
                 for (int c = -1; c < 8; c++) {
-                    Due.due(name + "map " + k + " " + c, x.of(true, k, c), y.of(true, k, c));
-                    Due.due(name + "module " + k + " " + c, x.of(false, k, c), y.of(false, k, c));
+                    int at = map ? k : k - maps;
+                    Due.due(name + "of " + map + " " + at + " " + c, x.of(map, at, c), y.of(map, at, c));
                 }
             }
+            asked += 26 + 9 * (modules + maps);
             if (less(4) == 0) {
                 Due.due(seed + " back", x.back(), y.back());
             } else if (less(4) == 0) {

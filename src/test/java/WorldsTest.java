@@ -22,7 +22,7 @@ public final class WorldsTest {
                 Due.due("N", x.count(3), is ? n : 2);
                 if (is) {
                     worlds++;
-                    one(x, new Naive(q, m));
+                    one(new Naive(q, m));
                 }
             }
         }
@@ -35,19 +35,20 @@ public final class WorldsTest {
         return RANDOM.nextInt(n);
     }
 
-    private static void one(PowersForTimes x, Naive w) {
-        Due.due("d", x.count(2), w.d);
+    private static void one(Naive w) {
+        Edges.Fresh fresh = Edges.Fresh.at(w.q, w.m);
+        Due.due("d", fresh.x().count(2), w.d);
         for (int a = 0; a < w.n; a++) {
             for (int b = 0; b < w.n; b++) {
-                Due.due("work 2", x.work(2, a, b), w.times(a, b));
+                Due.due("work 2", fresh.x().work(2, a, b), w.times(a, b));
                 if (b > 0) {
-                    Due.due("work 3", w.times(x.work(3, a, b), b), a);
+                    Due.due("work 3", w.times(fresh.x().work(3, a, b), b), a);
                 }
             }
         }
         String name = "world " + w.q + " " + w.m + ": ";
         for (int g0 = 0; g0 < w.n; g0 += 1 + less(w.n)) {
-            counts(name, x, w, g0);
+            counts(name, fresh, w, g0);
         }
         for (int i = 0; i < 12; i++) {
             int rank = 1 + i % 3;
@@ -59,20 +60,20 @@ public final class WorldsTest {
             if (i % 4 == 0) {
                 g[0] = less(w.q);
             }
-            x.world(w.q, w.m);
+            PowersForTimes x = Edges.at(w.q, w.m);
             Due.due(name + "module", x.module(g[0], g[1], g[2], g[3]), 0);
             module(name + g[0] + " " + g[1] + " " + g[2] + " " + g[3] + ": ", x, w, Naive.trim(g));
         }
     }
 
-    private static void counts(String name, PowersForTimes x, Naive w, int g0) {
+    private static void counts(String name, Edges.Fresh fresh, Naive w, int g0) {
         for (int rank = 1; rank <= 3; rank++) {
             if (rank < 3 && w.n < 28 || rank < 2 || rank == 3 && w.n < 10) {
-                Due.due(name + "classes(" + g0 + ", " + rank + ")", x.classes(g0, rank), w.classes(g0, rank).size());
+                Due.due(name + "classes(" + g0 + ", " + rank + ")", fresh.x().classes(g0, rank), w.classes(g0, rank).size());
             }
         }
         if (w.n < 33 || g0 < 2) {
-            Due.due(name + "greatest(" + g0 + ")", x.greatest(g0), w.greatest(g0));
+            Due.due(name + "greatest(" + g0 + ")", fresh.x().greatest(g0), w.greatest(g0));
         }
     }
 
@@ -148,28 +149,27 @@ public final class WorldsTest {
     /** What hangs on q alone. */
     private static void numbers() {
         for (int q : new int[] {2, 3, 5}) {
-            PowersForTimes x = new PowersForTimes();
-            x.world(q, q);
+            Edges.Fresh fresh = Edges.Fresh.at(q, q);
             int all = (int) Math.pow(q, 13);
             for (int k = -1; k < 15; k++) {
                 for (int d = -1; d < 7; d++) {
                     boolean is = k >= 1 && k <= 12 && d >= 1 && d <= 4 && k * d <= 12;
-                    Due.due("sums " + k + " " + d, x.sums(k, d), is ? Naive.sums(k, d, q) : -1);
+                    Due.due("sums " + k + " " + d, fresh.x().sums(k, d), is ? Naive.sums(k, d, q) : -1);
                 }
             }
             for (int i = 0; i < 3000; i++) {
                 int a = q == 2 ? 1 + i * 2 + less(2) : 1 + less(i % 2 == 0 ? all - 1 : 20000);
-                factors(x, a, q);
+                factors(fresh, a, q);
             }
             for (int i = 0; i < 300; i++) {
-                factors(x, product(q), q);
+                factors(fresh, product(q), q);
             }
             for (int b = 0; b < 150; b++) {
                 for (int i = 0; i < 12; i++) {
                     int a = less(i < 6 ? 30 : all);
                     int[] f = Naive.figures(b, q);
                     boolean is = f.length > 1 && f.length < 8 && Naive.isMonic(f);
-                    Due.due(q + ": symbol " + a + " " + b, x.symbol(a, b), is ? Naive.symbol(a, b, q) : -1);
+                    Due.due(q + ": symbol " + a + " " + b, fresh.x().symbol(a, b), is ? Naive.symbol(a, b, q) : -1);
                 }
             }
         }
@@ -189,11 +189,11 @@ public final class WorldsTest {
         return Naive.number(all, q);
     }
 
-    private static void factors(PowersForTimes x, int a, int q) {
+    private static void factors(Edges.Fresh fresh, int a, int q) {
         List<Integer> f = Naive.factors(a, q);
-        Due.due(q + ": factors " + a, x.factors(a, -1), f.size());
+        Due.due(q + ": factors " + a, fresh.x().factors(a, -1), f.size());
         for (int i = 0; i <= f.size(); i++) {
-            Due.due(q + ": factors " + a + " " + i, x.factors(a, i), i < f.size() ? f.get(i) : -1);
+            Due.due(q + ": factors " + a + " " + i, fresh.x().factors(a, i), i < f.size() ? f.get(i) : -1);
         }
     }
 }
