@@ -1,7 +1,8 @@
 import java.util.Random;
 
-/** Runs of calls by many seeds, each answer held against the model's. */
+/** Runs of all calls by many seeds, each answer held against the model's. */
 public final class RandomRunsTest {
+    private static final int MOST_ASKED = 512;
     private static final int[][] WORLDS = {
         {2, 2}, {2, 3}, {2, 7}, {2, 11}, {2, 13}, {2, 19}, {2, 25}, {2, 31}, {2, 37}, {2, 61}, {2, 67}, {2, 131}, {2, 247},
         {3, 3}, {3, 4}, {3, 5}, {3, 10}, {3, 14}, {3, 17}, {3, 34}, {3, 86}, {3, 113},
@@ -21,7 +22,7 @@ public final class RandomRunsTest {
             x = new PowersForTimes();
             y = new Model();
             asked = 0;
-            while (asked < 512) {
+            while (asked < MOST_ASKED) {
                 call(seed + "/" + asked + " ");
             }
         }
@@ -68,8 +69,10 @@ public final class RandomRunsTest {
     }
 
     private static void call(String at) {
-        int how = less(100);
-        if (how < 22) {
+        int how = less(110);
+        if (how >= 100) {
+            texts(at);
+        } else if (how < 22) {
             tell(at);
         } else if (how < 40) {
             acts(at);
@@ -193,6 +196,49 @@ public final class RandomRunsTest {
                 int o = module();
                 due(at + "alike " + m + " " + o, x.alike(m, o), y.alike(m, o));
             }
+        }
+    }
+
+    private static void texts(String at) {
+        int how = less(12);
+        int n = less(8) == 0 ? less(304) - 2 : y.count(9);
+        switch (how) {
+            case 0, 1, 2 -> write(at, TextsTest.randomText(random));
+            case 3, 4 -> due(at + "text", x.text(), y.text());
+            case 5 -> due(at + "end " + n, x.end(n), y.end(n));
+            case 6 -> {
+                int what = less(4) - 1;
+                due(at + "fault " + what, x.fault(what), y.fault(what));
+            }
+            default -> {
+                int text = less(5) == 0 ? less(7) - 2 : less(Math.max(1, y.count(6)));
+                due(at + "told " + text, x.told(text), y.told(text));
+            }
+        }
+    }
+
+    /** Mostly onto an empty tape; now and then behind what there is. */
+    private static void write(String at, String text) {
+        int before = less(8) == 0 ? y.count(9) : 0;
+        if (asked + text.length() / 20 + 4 > MOST_ASKED) {
+            return;
+        }
+        due(at + "end " + before, x.end(before), y.end(before));
+        byte[] b = new byte[text.length() + 20];
+        for (int i = 0; i < text.length(); i++) {
+            b[i] = (byte) text.charAt(i);
+        }
+        for (int i = 0; i < text.length(); i += 20) {
+            int[] f = new int[5];
+            for (int k = 0; k < 5; k++) {
+                f[k] = Due.four(b, i + 4 * k);
+            }
+            due(at + "feed " + i, x.feed(f[0], f[1], f[2], f[3], f[4]), y.feed(f[0], f[1], f[2], f[3], f[4]));
+        }
+        int n = before + text.length();
+        due(at + "end " + n, x.end(n), y.end(n));
+        if (less(8) > 0) {
+            due(at + "text", x.text(), y.text());
         }
     }
 

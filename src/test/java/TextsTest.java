@@ -307,6 +307,12 @@ public final class TextsTest {
         return how < 6 ? "t" : less(40) == 0 ? "" + less(12000) : "" + less(10);
     }
 
+    /** For the runs of other tests. */
+    static String randomText(Random by) {
+        random = by;
+        return randomText();
+    }
+
     private static String randomText() {
         StringBuilder s = new StringBuilder();
         int clauses = less(60) == 0 ? 21 : less(5);
